@@ -1,0 +1,63 @@
+/** Promises 4 to 6: what read changes and what stays, why and where. */
+public final class ReadTest {
+    private ReadTest() {
+    }
+
+    public static void main(String[] arguments) {
+        whatWasReadStays();
+        aRefusalForgets();
+        anObjectIsUsedAgain();
+        Check.finish();
+    }
+
+    private static void whatWasReadStays() {
+        BlockFront front = Check.typed("if a: b = 'c'");
+        Check.same("tokens", Check.read(front), 8);
+        String before = Check.all(front);
+        Check.same("written", Check.output(front), "if a:\n  b = 'c'\n");
+        Check.type(front, "\n$");
+        Check.same("behind type", Check.all(front), before);
+        front.clear();
+        Check.same("behind clear", Check.all(front), before);
+        Check.type(front, "xxxxxxxxxxxxx");
+        Check.same("behind another text", Check.all(front), before);
+        Check.same("why", front.why(), 0);
+        Check.same("where", front.where(), -1);
+    }
+
+    private static void aRefusalForgets() {
+        String[] wrong = {"$", "a b", "(", "a)", "'", "1a", "  a", "if a:\n  b\n c", "--"};
+        for (String text : wrong) {
+            BlockFront front = Check.typed("if a: b\n");
+            Check.read(front);
+            front.clear();
+            Check.type(front, text);
+            Check.same(text + " read()", Check.read(front), -1);
+            Check.same(text + " all", Check.all(front), "||");
+            Check.same(text + " why", front.why() > 0, true);
+            Check.same(text + " where", front.where() >= 0, true);
+            Check.same(text + " again", Check.read(front), -1);
+            Check.same(text + " was not cleared", front.clear(), text.length());
+            Check.same("empty read()", Check.read(front), 1);
+            Check.same("why then", front.why(), 0);
+            Check.same("where then", front.where(), -1);
+        }
+    }
+
+    /** What an earlier text left in an object changes no later answer. */
+    private static void anObjectIsUsedAgain() {
+        String[] texts = {"if a:\n  if b:\n    ((", "x = [1, (2)]\n", "if a:\n\tb\n", "((a",
+            "def f(x):\n  y\n  z;z\nw", "", "a\\\n", "while not a: b", Check.times("a;", 70), "-a"};
+        BlockFront front = new BlockFront();
+        for (int i = 0; i < 3 * texts.length; i++) {
+            String text = texts[i * 7 % texts.length];
+            front.clear();
+            Check.type(front, text);
+            BlockFront other = Check.typed(text);
+            Check.same(text + " read()", Check.read(front), Check.read(other));
+            Check.same(text + " why", front.why(), other.why());
+            Check.same(text + " where", front.where(), other.where());
+            Check.same(text + " all", Check.all(front), Check.all(other));
+        }
+    }
+}
