@@ -7,6 +7,7 @@ public final class ReadTest {
         whatWasReadStays();
         aRefusalForgets();
         anObjectIsUsedAgain();
+        whatStoodBehindTheText();
         Check.finish();
     }
 
@@ -41,6 +42,22 @@ public final class ReadTest {
             Check.same("empty read()", Check.read(front), 1);
             Check.same("why then", front.why(), 0);
             Check.same("where then", front.where(), -1);
+        }
+    }
+
+    /** Characters of an earlier, longer text are no part of a later one. */
+    private static void whatStoodBehindTheText() {
+        String[] texts = {"1a", "a\\\n", "a==b", "ab", "'a'", "if a:\n  b", "   a", "a#b\nc"};
+        for (String longer : texts) {
+            for (int size = 0; size < longer.length(); size++) {
+                BlockFront front = Check.typed(longer);
+                front.clear();
+                Check.type(front, longer.substring(0, size));
+                BlockFront other = Check.typed(longer.substring(0, size));
+                Check.same("part of " + longer, Check.read(front), Check.read(other));
+                Check.same("why", front.why() + " " + front.where(), other.why() + " " + other.where());
+                Check.same("all", Check.all(front), Check.all(other));
+            }
         }
     }
 

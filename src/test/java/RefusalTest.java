@@ -30,6 +30,7 @@ public final class RefusalTest {
         Check.refused("if a:\n\tb\n        c\n", TABS, 17);
         Check.refused("if a:\n \tb\n  \tc\n", TABS, 13);
         Check.refused("if a:\n  b\n\tc", TABS, 11);
+        Check.refused("if a:\n b\n\tc", TABS, 10);
         Check.refused("if a:\n        b\n\t c", TABS, 18);
         Check.refused("if a:\n                b\n        \tc", TABS, 33);
         Check.refused("if a:\n        if b:\n         c\n\td", TABS, 32);

@@ -29,6 +29,13 @@ public final class TokenTest {
         tokens("a", "1@0+1 6@1+0 9@1+0");
         tokens("a\n", "1@0+1 6@1+1 9@2+0");
         tokens("_aZ09_ ", "1@0+6 6@7+0 9@7+0");
+        for (char c = 32; c < 127; c++) {
+            boolean begins = Character.isLetter(c) || c == '_';
+            if (begins || Character.isDigit(c)) {
+                tokens("a" + c, "1@0+2 6@2+0 9@2+0");
+                tokens("" + c, (begins ? "1" : "3") + "@0+1 6@1+0 9@1+0");
+            }
+        }
         tokens("007", "3@0+3 6@3+0 9@3+0");
         tokens("1.a", "3@0+1 5@1+1 1@2+1 6@3+0 9@3+0");
         tokens("if a:\n  b\n", "2@0+2 1@3+1 5@4+1 6@5+1 7@8+0 1@8+1 6@9+1 8@10+0 9@10+0");
