@@ -13,9 +13,9 @@ public final class AnyCallsTest {
     public static void main(String[] arguments) {
         Random random = new Random(11);
         for (int run = 0; run < 3000; run++) {
-            BlockFront front = new BlockFront();
+            Front front = new Front();
             String made = "";
-            for (int call = 0; call < 512 && made.isEmpty(); call++) {
+            for (int call = 0; call < 300 && made.isEmpty(); call++) {
                 made = anyCall(front, random);
             }
             Check.same("run " + run, made, "");
@@ -24,7 +24,7 @@ public final class AnyCallsTest {
     }
 
     /** Makes a call; answers what is wrong with it, or nothing. */
-    private static String anyCall(BlockFront front, Random random) {
+    private static String anyCall(Front front, Random random) {
         int which = random.nextInt(20);
         try {
             if (which < 12) {
@@ -67,7 +67,7 @@ public final class AnyCallsTest {
         return all;
     }
 
-    private static String readAnswer(BlockFront front) {
+    private static String readAnswer(Front front) {
         int tokens;
         try {
             tokens = front.read();

@@ -1,4 +1,5 @@
 import java.util.NoSuchElementException;
+import java.util.function.Supplier;
 
 /** What the tests share: typing texts, asking an object for all it has read, and counting faults. */
 final class Check {
@@ -24,7 +25,7 @@ final class Check {
     }
 
     /** Types a text in calls of up to eight characters. */
-    static void type(BlockFront front, String text) {
+    static void type(Front front, String text) {
         for (int at = 0; at < text.length(); at += 8) {
             int n = Math.min(8, text.length() - at);
             long characters = 0;
@@ -35,14 +36,14 @@ final class Check {
         }
     }
 
-    static BlockFront typed(String text) {
-        BlockFront front = new BlockFront();
+    static Front typed(String text) {
+        Front front = new Front();
         type(front, text);
         return front;
     }
 
     /** What read() answers, or -1 when it refuses the text. */
-    static int read(BlockFront front) {
+    static int read(Front front) {
         try {
             return front.read();
         } catch (UnsupportedOperationException refused) {
@@ -50,8 +51,8 @@ final class Check {
         }
     }
 
-    static BlockFront accepted(String text) {
-        BlockFront front = typed(text);
+    static Front accepted(String text) {
+        Front front = typed(text);
         boolean isRead = read(front) >= 0;
         same(show(text) + " why, where", front.why() + ", " + front.where(), "0, -1");
         same(show(text) + " is read", isRead, true);
@@ -59,14 +60,27 @@ final class Check {
     }
 
     static void refused(String text, int why, int where) {
-        BlockFront front = typed(text);
+        Front front = typed(text);
         same(show(text) + " read()", read(front), -1);
         same(show(text) + " why, where", front.why() + ", " + front.where(), why + ", " + where);
-        same(show(text) + " leaves nothing read", all(front), all(new BlockFront()));
+        same(show(text) + " leaves nothing read", all(front), all(new Front()));
+    }
+
+    /** What a call answers, or throws. and the very class that it throws. */
+    static String answer(Supplier<?> call) {
+        try {
+            return String.valueOf(call.get());
+        } catch (RuntimeException thrown) {
+            return "throws." + thrown.getClass().getSimpleName();
+        }
+    }
+
+    static String type(Front front, long characters, int n) {
+        return answer(() -> front.type(characters, n));
     }
 
     /** Each token as kind@place+length. */
-    static String tokens(BlockFront front) {
+    static String tokens(Front front) {
         StringBuilder row = new StringBuilder();
         for (int k = 0; hasToken(front, k); k++) {
             row.append(k == 0 ? "" : " ").append(front.token(k, 0));
@@ -75,7 +89,7 @@ final class Check {
         return row.toString();
     }
 
-    static boolean hasToken(BlockFront front, int k) {
+    static boolean hasToken(Front front, int k) {
         try {
             front.token(k, 0);
             return true;
@@ -85,7 +99,7 @@ final class Check {
     }
 
     /** The kinds of the tokens alone. */
-    static String kinds(BlockFront front) {
+    static String kinds(Front front) {
         StringBuilder row = new StringBuilder();
         for (int k = 0; hasToken(front, k); k++) {
             row.append(front.token(k, 0));
@@ -94,14 +108,14 @@ final class Check {
     }
 
     /** The tree: each node as kind@token, its parts in brackets behind it. */
-    static String tree(BlockFront front) {
+    static String tree(Front front) {
         StringBuilder row = new StringBuilder();
         int end = front.nodes() == 0 ? 0 : addNode(front, 0, row);
         same("nodes() of " + row, front.nodes(), end);
         return row.toString();
     }
 
-    private static int addNode(BlockFront front, int k, StringBuilder row) {
+    private static int addNode(Front front, int k, StringBuilder row) {
         row.append(front.node(k, 0)).append('@').append(front.node(k, 1));
         int parts = front.node(k, 2);
         int next = k + 1;
@@ -114,11 +128,11 @@ final class Check {
     }
 
     /** The tree without the numbers of its tokens. */
-    static String shape(BlockFront front) {
+    static String shape(Front front) {
         return tree(front).replaceAll("@\\d+", "");
     }
 
-    static String output(BlockFront front) {
+    static String output(Front front) {
         StringBuilder row = new StringBuilder();
         for (int place = 0; place < front.length(); place++) {
             row.append(front.output(place));
@@ -127,8 +141,13 @@ final class Check {
     }
 
     /** All that was read. */
-    static String all(BlockFront front) {
+    static String all(Front front) {
         return tokens(front) + "|" + tree(front) + "|" + output(front);
+    }
+
+    /** All but the text: what was read, and why and where the latest read() refused. */
+    static String state(Front front) {
+        return all(front) + "|" + front.why() + "@" + front.where();
     }
 
     static String times(String part, int n) {

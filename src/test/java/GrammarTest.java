@@ -265,7 +265,7 @@ public final class GrammarTest {
         int unfit = 0;
         for (int i = 0; i < 30000; i++) {
             String text = madeText(random, i % 3);
-            BlockFront front = Check.typed(text);
+            Front front = Check.typed(text);
             boolean isRead = Check.read(front) >= 0;
             if (isRead) {
                 fit++;

@@ -16,7 +16,7 @@ public final class OutputTest {
     }
 
     private static void written(String text, String due) {
-        BlockFront front = Check.accepted(text);
+        Front front = Check.accepted(text);
         Check.same(Check.show(text) + " output", Check.show(Check.output(front)), Check.show(due));
         Check.same(Check.show(text) + " length()", front.length(), due.length());
     }
@@ -124,7 +124,7 @@ public final class OutputTest {
     }
 
     private static void wrongQuestions() {
-        BlockFront front = Check.accepted("ab");
+        Front front = Check.accepted("ab");
         Check.same("the last", front.output(2), '\n');
         int[] wrong = {3, -1, 4, Integer.MAX_VALUE, Integer.MIN_VALUE, 3119, 3120};
         for (int place : wrong) {

@@ -12,7 +12,7 @@ public final class ReadTest {
     }
 
     private static void whatWasReadStays() {
-        BlockFront front = Check.typed("if a: b = 'c'");
+        Front front = Check.typed("if a: b = 'c'");
         Check.same("tokens", Check.read(front), 8);
         String before = Check.all(front);
         Check.same("written", Check.output(front), "if a:\n  b = 'c'\n");
@@ -29,7 +29,7 @@ public final class ReadTest {
     private static void aRefusalForgets() {
         String[] wrong = {"$", "a b", "(", "a)", "'", "1a", "  a", "if a:\n  b\n c", "--"};
         for (String text : wrong) {
-            BlockFront front = Check.typed("if a: b\n");
+            Front front = Check.typed("if a: b\n");
             Check.read(front);
             front.clear();
             Check.type(front, text);
@@ -50,10 +50,10 @@ public final class ReadTest {
         String[] texts = {"1a", "a\\\n", "a==b", "ab", "'a'", "if a:\n  b", "   a", "a#b\nc"};
         for (String longer : texts) {
             for (int size = 0; size < longer.length(); size++) {
-                BlockFront front = Check.typed(longer);
+                Front front = Check.typed(longer);
                 front.clear();
                 Check.type(front, longer.substring(0, size));
-                BlockFront other = Check.typed(longer.substring(0, size));
+                Front other = Check.typed(longer.substring(0, size));
                 Check.same("part of " + longer, Check.read(front), Check.read(other));
                 Check.same("why", front.why() + " " + front.where(), other.why() + " " + other.where());
                 Check.same("all", Check.all(front), Check.all(other));
@@ -65,12 +65,12 @@ public final class ReadTest {
     private static void anObjectIsUsedAgain() {
         String[] texts = {"if a:\n  if b:\n    ((", "x = [1, (2)]\n", "if a:\n\tb\n", "((a",
             "def f(x):\n  y\n  z;z\nw", "", "a\\\n", "while not a: b", Check.times("a;", 70), "-a"};
-        BlockFront front = new BlockFront();
+        Front front = new Front();
         for (int i = 0; i < 3 * texts.length; i++) {
             String text = texts[i * 7 % texts.length];
             front.clear();
             Check.type(front, text);
-            BlockFront other = Check.typed(text);
+            Front other = Check.typed(text);
             Check.same(text + " read()", Check.read(front), Check.read(other));
             Check.same(text + " why", front.why(), other.why());
             Check.same(text + " where", front.where(), other.where());

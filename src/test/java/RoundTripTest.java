@@ -28,7 +28,7 @@ public final class RoundTripTest {
             if (made.text.length() > 600) {
                 continue;
             }
-            BlockFront front = Check.typed(made.text.toString());
+            Front front = Check.typed(made.text.toString());
             boolean isRead = Check.read(front) >= 0;
             String name = Check.show(made.text.toString());
             if (isRead) {
@@ -46,12 +46,12 @@ public final class RoundTripTest {
         Check.finish();
     }
 
-    private static void again(String name, BlockFront front) {
+    private static void again(String name, Front front) {
         String output = Check.output(front);
         if (output.length() > 600) {
             return;
         }
-        BlockFront other = Check.typed(output);
+        Front other = Check.typed(output);
         if (Check.read(other) < 0) {
             // Only what the output has more of, the tokens of blocks, may be too much.
             Check.same(name + " again why", other.why() == DEEP || other.why() == ROOM, true);

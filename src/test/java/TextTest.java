@@ -12,18 +12,8 @@ public final class TextTest {
         Check.finish();
     }
 
-    private static String typeAnswer(BlockFront front, long characters, int n) {
-        try {
-            return "" + front.type(characters, n);
-        } catch (IllegalArgumentException wrong) {
-            return "argument";
-        } catch (IllegalStateException full) {
-            return "state";
-        }
-    }
-
     private static void aNewObject() {
-        BlockFront front = new BlockFront();
+        Front front = new Front();
         Check.same("new why", front.why(), 0);
         Check.same("new where", front.where(), -1);
         Check.same("new nodes", front.nodes(), 0);
@@ -35,52 +25,52 @@ public final class TextTest {
     }
 
     private static void typing() {
-        BlockFront front = new BlockFront();
-        Check.same("one", typeAnswer(front, 'a', 1), "1");
-        Check.same("two, lowest first", typeAnswer(front, 'b' | 'c' << 8, 2), "3");
-        Check.same("bytes above n are left", typeAnswer(front, 0xFFFFFFFFFFFFFF00L | 'd', 1), "4");
-        Check.same("eight", typeAnswer(front, 0x6867666564636261L, 8), "12");
+        Front front = new Front();
+        Check.same("one", Check.type(front, 'a', 1), "1");
+        Check.same("two, lowest first", Check.type(front, 'b' | 'c' << 8, 2), "3");
+        Check.same("bytes above n are left", Check.type(front, 0xFFFFFFFFFFFFFF00L | 'd', 1), "4");
+        Check.same("eight", Check.type(front, 0x6867666564636261L, 8), "12");
         Check.read(front);
         Check.same("typed", Check.output(front), "abcdabcdefgh\n");
-        BlockFront tabs = new BlockFront();
-        Check.same("blank, tab, end of line", typeAnswer(tabs, 32 | 9 << 8 | 10 << 16, 3), "3");
-        Check.same("126", typeAnswer(tabs, 126, 1), "4");
+        Front tabs = new Front();
+        Check.same("blank, tab, end of line", Check.type(tabs, 32 | 9 << 8 | 10 << 16, 3), "3");
+        Check.same("126", Check.type(tabs, 126, 1), "4");
         Check.same("type is no read", tabs.nodes(), 0);
     }
 
     private static void wrongTyping() {
-        BlockFront front = Check.typed("abc");
+        Front front = Check.typed("abc");
         int[] wrongCounts = {0, -1, 9, Integer.MAX_VALUE, Integer.MIN_VALUE};
         for (int n : wrongCounts) {
-            Check.same("n = " + n, typeAnswer(front, 0x6161616161616161L, n), "argument");
+            Check.same("n = " + n, Check.type(front, 0x6161616161616161L, n), "throws.IllegalArgumentException");
         }
         for (int c = 0; c < 256; c++) {
             boolean isOne = c == 9 || c == 10 || (c >= 32 && c <= 126);
-            BlockFront other = new BlockFront();
-            Check.same("character " + c, typeAnswer(other, c, 1), isOne ? "1" : "argument");
+            Front other = new Front();
+            Check.same("character " + c, Check.type(other, c, 1), isOne ? "1" : "throws.IllegalArgumentException");
         }
         for (int i = 0; i < 8; i++) {
             long bad = 0x6161616161616161L & ~(255L << (8 * i)) | 200L << (8 * i);
-            Check.same("wrong at " + i, typeAnswer(front, bad, 8), "argument");
+            Check.same("wrong at " + i, Check.type(front, bad, 8), "throws.IllegalArgumentException");
         }
-        Check.same("0 at the end", typeAnswer(front, 'a', 2), "argument");
+        Check.same("0 at the end", Check.type(front, 'a', 2), "throws.IllegalArgumentException");
         Check.same("nothing was added", front.clear(), 3);
     }
 
     private static void theLongestText() {
-        BlockFront front = Check.typed(Check.times("a", 596));
-        Check.same("601", typeAnswer(front, 0x6161616161L, 5), "state");
-        Check.same("wrong and too long", typeAnswer(front, 0x6161611161L, 5), "argument");
-        Check.same("wrong n and too long", typeAnswer(front, 0x6161616161L, 9), "argument");
-        Check.same("600", typeAnswer(front, 0x61616161L, 4), "600");
-        Check.same("one more", typeAnswer(front, 0x61, 1), "state");
+        Front front = Check.typed(Check.times("a", 596));
+        Check.same("601", Check.type(front, 0x6161616161L, 5), "throws.IllegalStateException");
+        Check.same("wrong and too long", Check.type(front, 0x6161611161L, 5), "throws.IllegalArgumentException");
+        Check.same("wrong n and too long", Check.type(front, 0x6161616161L, 9), "throws.IllegalArgumentException");
+        Check.same("600", Check.type(front, 0x61616161L, 4), "600");
+        Check.same("one more", Check.type(front, 0x61, 1), "throws.IllegalStateException");
         Check.same("tokens of 600", Check.read(front), 3);
         Check.same("cleared", front.clear(), 600);
-        Check.same("room again", typeAnswer(front, 0x61, 1), "1");
+        Check.same("room again", Check.type(front, 0x61, 1), "1");
     }
 
     private static void clearing() {
-        BlockFront front = Check.typed("a b");
+        Front front = Check.typed("a b");
         Check.read(front);
         Check.same("how long", front.clear(), 3);
         Check.same("why stays", front.why(), 9);

@@ -104,7 +104,7 @@ public final class TokenTest {
     }
 
     private static void wrongQuestions() {
-        BlockFront front = Check.accepted("ab;c");
+        Front front = Check.accepted("ab;c");
         Check.same("the last", front.token(4, 0), 9);
         int[][] wrong = {{5, 0}, {-1, 0}, {0, -1}, {0, 3}, {Integer.MAX_VALUE, 1},
             {Integer.MIN_VALUE, 1}, {1, Integer.MAX_VALUE}, {1, Integer.MIN_VALUE}, {119, 0}, {120, 0}};

@@ -207,7 +207,7 @@ public final class TreeTest {
     }
 
     private static void wrongQuestions() {
-        BlockFront front = Check.accepted("a;b");
+        Front front = Check.accepted("a;b");
         Check.same("nodes", front.nodes(), 5);
         Check.same("the last", front.node(4, 0), 20);
         int[][] wrong = {{5, 0}, {-1, 0}, {0, -1}, {0, 3}, {Integer.MAX_VALUE, 1},
