@@ -29,6 +29,7 @@ public final class ReadEdgesTest {
         howLongTheOutputIs();
         whichPlacesTheOutputHas();
         questionsChangeNothing();
+        anObjectIsUsedFor512Calls();
         Check.finish();
     }
 
@@ -283,6 +284,32 @@ public final class ReadEdgesTest {
             }
             Check.same("behind questions", Check.state(front), before);
             Check.same("the text", front.clear(), text.length());
+        }
+    }
+
+    private static void anObjectIsUsedFor512Calls() {
+        BlockFront right = new BlockFront();
+        right.type('a', 1);
+        for (int call = 2; call <= 511; call++) {
+            Check.same("call " + call, right.read(), 3);
+        }
+        Check.same("the 512th call", right.output(0), 'a');
+        BlockFront wrong = new BlockFront();
+        wrong.type('$', 1);
+        for (int call = 2; call <= 511; call++) {
+            Check.same("call " + call, Check.answer(wrong::read), REFUSED);
+        }
+        Check.same("the 512th call", wrong.why(), 7);
+        BlockFront typed = new BlockFront();
+        for (int call = 1; call <= 510; call++) {
+            Check.same("call " + call, typed.type('a', 1), call);
+        }
+        Check.same("call 511", typed.read(), 3);
+        Check.same("the 512th call", typed.token(0, 2), 510);
+        BlockFront cleared = new BlockFront();
+        for (int call = 1; call <= 511; call += 2) {
+            Check.same("call " + call, cleared.type('b' | 'c' << 8, 2), 2);
+            Check.same("call " + (call + 1), cleared.clear(), 2);
         }
     }
 }

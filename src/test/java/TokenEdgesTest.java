@@ -211,7 +211,8 @@ public final class TokenEdgesTest {
         for (String two : doubled) {
             Check.refused("a" + two + "b", GRAMMAR, 2);
         }
-        Check.same("all others", Check.kinds(Check.accepted("f(a,b)[c];[]\nif a:b")), "15151551555" + "56" + "21516" + "9");
+        Check.same("all others", Check.kinds(Check.accepted("f(a,b)[c];[]\nif a:b")),
+                "151515515555621516" + "9");
     }
 
     private static void everythingElseIsRefused() {
