@@ -144,7 +144,7 @@ public final class BlockFront {
 
     public int read() throws UnsupportedOperationException {
         refusal.forget();
-        if (!isAccepted()) {
+        if (!scanner.scan() || !parser.parse()) {
             tokens.size = 0;
             tree.size = 0;
             writer.size = 0;
@@ -197,18 +197,6 @@ public final class BlockFront {
             throw new NoSuchElementException("no such place");
         }
         return writer.writtenAt(place);
-    }
-
-    private boolean isAccepted() {
-        try {
-            scanner.scan();
-            parser.begin();
-            parser.statements(END, 0);
-            tree.number();
-            return true;
-        } catch (IllegalStateException refused) {
-            return false;
-        }
     }
 
     private static char byteAt(long characters, int i) {
@@ -402,8 +390,18 @@ public final class BlockFront {
             this.refusal = refusal;
         }
 
-        void scan() {
+        /** Whether the text could be taken; if not, it is refused. */
+        boolean scan() {
             begin();
+            try {
+                takeAll();
+                return true;
+            } catch (IllegalStateException refused) {
+                return false;
+            }
+        }
+
+        private void takeAll() {
             for (int i = 0; i < MOST_CHARACTERS && place < text.size; i++) {
                 if (!inLine) {
                     beginLine();
@@ -745,9 +743,17 @@ public final class BlockFront {
             this.refusal = refusal;
         }
 
-        void begin() {
+        /** Whether the tokens could be read; if not, the text is refused. */
+        boolean parse() {
             next = 0;
             tree.size = 0;
+            try {
+                statements(END, 0);
+            } catch (IllegalStateException refused) {
+                return false;
+            }
+            tree.number();
+            return true;
         }
 
         private boolean isAt(int mark) {
@@ -767,7 +773,7 @@ public final class BlockFront {
         }
 
         /** A block of the statements ahead of a closing token, and that token. */
-        int statements(int closing, int depth) {
+        private int statements(int closing, int depth) {
             if (depth >= MOST_WIDTHS) {
                 refusal.refuse(DEEP, tokens.placeAt(next));
             }
@@ -925,23 +931,18 @@ public final class BlockFront {
         private int part(int open) {
             int left = atom(open);
             for (int i = 0; i < MOST_TOKENS && (isAt('(') || isAt('[') || isAt('.')); i++) {
+                int made;
                 if (isAt('.')) {
-                    left = member(left);
-                } else if (isAt('(')) {
-                    left = call(left, open);
+                    advance();
+                    made = tree.add(NODE_MEMBER, expect(NAME));
+                    tree.append(made, left);
                 } else {
-                    left = index(left, open);
+                    made = isAt('(') ? call(left, open) : index(left, open);
                 }
+                left = made;
                 checkHeight(left);
             }
             return left;
-        }
-
-        private int member(int left) {
-            advance();
-            int made = tree.add(NODE_MEMBER, expect(NAME));
-            tree.append(made, left);
-            return made;
         }
 
         private int call(int left, int open) {

@@ -5,6 +5,7 @@ import java.lang.reflect.Modifier;
 import java.nio.file.Files;
 import java.nio.file.Path;
 import java.util.ArrayList;
+import java.util.Arrays;
 import java.util.List;
 import java.util.Set;
 import java.util.TreeSet;
@@ -74,8 +75,13 @@ public final class RulesTest {
         Matcher caught = Pattern.compile("catch \\((\\w+) (\\w+)\\)").matcher(source);
         while (caught.find()) {
             Check.same(caught.group(), caught.group(1), "IllegalStateException");
-            Check.same("left alone", source.split("\\b" + caught.group(2) + "\\b", -1).length, 2);
+            Check.same("left alone", times(source, "\\b" + caught.group(2) + "\\b"),
+                    times(source, "catch \\(\\w+ " + caught.group(2) + "\\)"));
         }
+    }
+
+    private static int times(String source, String pattern) {
+        return source.split(pattern, -1).length - 1;
     }
 
     /** Behind a point stand only methods of the file itself and of the library that is listed. */
@@ -104,6 +110,9 @@ public final class RulesTest {
                     last++;
                 }
                 Check.same(lines[i].strip() + " is short", last - i < 60, true);
+                String body = String.join("\n", Arrays.asList(lines).subList(i, last));
+                boolean holdsBoth = times(body, "\\btry\\b") > 0 && times(body, "\\bthrow\\b") > 0;
+                Check.same(lines[i].strip() + " throws and catches", holdsBoth, false);
             }
         }
     }
